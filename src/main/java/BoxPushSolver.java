@@ -341,7 +341,7 @@ public final class BoxPushSolver {
     return set << SIDE;
   }
 
-  // Without the mask a cell of the last column would come out in the first column of the next row.
+  // Without the masks a cell at the end of a row would come out in the row beside it.
   private static long shiftRight(long set) {
     return (set << 1) & ~FIRST_COLUMN;
   }
@@ -381,7 +381,7 @@ public final class BoxPushSolver {
 
   private void findLiveCells() {
     long open = ~walls;
-    // A box can be pushed down from a cell when the cell above it, where the pusher stands, is open.
+    // A box can be pushed up from a cell only when the cell below it, where the pusher stands, is open.
     long pushableUp = open & shiftUp(open);
     long pushableDown = open & shiftDown(open);
     long pushableRight = open & shiftRight(open);

@@ -15,6 +15,7 @@ public final class SolveTest {
     pushLimitIsTheLongest();
     solveChangesOnlyTheSolution();
     solveEmptiesTheSolution();
+    solveForgetsEarlierSearches();
     solveGoesFromThePresentPosition();
     solutionPushOutside();
     startEmptiesTheSolution();
@@ -199,6 +200,41 @@ public final class SolveTest {
     Check.due("undo", x.undo(), true);
     dueSolution(x, code(1, 2, RIGHT), code(1, 3, RIGHT));
     dueSolution(x, code(1, 2, RIGHT), code(1, 3, RIGHT));
+  }
+
+  private static void solveForgetsEarlierSearches() {
+    String[] shutIn = {"  $ .@"};
+    String[] near = {"@$."};
+    BoxPushSolver x = new BoxPushSolver(40, 10);
+    for (int round = 0; round < 3; round++) {
+      Check.draw(x, Check.FORTY_PUSHES);
+      Check.due("start", x.start(), 0);
+      Check.due("forty pushes", x.solve(), 40);
+      Check.draw(x, shutIn);
+      Check.due("start", x.start(), 0);
+      Check.due("shut in, after a long search", x.solve(), -7);
+      dueStored(x);
+      Check.draw(x, near);
+      Check.due("start", x.start(), 0);
+      dueSolution(x, code(0, 1, RIGHT));
+      dueSolution(x, code(0, 1, RIGHT));
+    }
+    // The same row with the pusher on the wrong side: what the first search met must not be met again.
+    String[] wrongSide = {" $    @."};
+    String[] row = {"@$     ."};
+    BoxPushSolver y = new BoxPushSolver(6, 10);
+    Check.draw(y, row);
+    Check.due("start", y.start(), 0);
+    for (int i = 0; i < 5; i++) {
+      Check.due("six pushes", y.solve(), 6);
+    }
+    Check.due("push", y.move(RIGHT), 2);
+    Check.due("five pushes", y.solve(), 5);
+    Check.due("undo", y.undo(), true);
+    Check.due("six pushes", y.solve(), 6);
+    Check.draw(y, wrongSide);
+    Check.due("start", y.start(), 0);
+    Check.due("pusher on the wrong side", y.solve(), -7);
   }
 
   private static void solveGoesFromThePresentPosition() {

@@ -1,14 +1,9 @@
-import java.lang.reflect.Field;
-
 /** Promises 1 to 3: construction, the edit grid and start. */
 public final class EditAndStartTest {
   private static final int[] LEVEL_CHARACTERS = {32, 35, 36, 42, 43, 46, 64};
-  private static final String[] TWO_PUSHES = {"@$ ."};
 
-  public static void main(String[] args) throws ReflectiveOperationException {
+  public static void main(String[] args) {
     freshObject();
-    pushLimitIsClamped();
-    historySizeIsClamped();
     setCellStoresEveryCharacter();
     setCellRefuses();
     getCellOutsideTheGrid();
@@ -53,37 +48,6 @@ public final class EditAndStartTest {
     Check.due("fresh solved", x.solved(), false);
     Check.due("fresh undo", x.undo(), false);
     Check.due("fresh solve", x.solve(), BoxPushSolver.ERR_NOT_STARTED);
-  }
-
-  private static void pushLimitIsClamped() throws ReflectiveOperationException {
-    int[] toOne = {Integer.MIN_VALUE, -40, -1, 0, 1};
-    for (int limit : toOne) {
-      Check.due("limit " + limit + ", two pushes", Check.started(limit, 8, TWO_PUSHES).solve(), BoxPushSolver.ERR_NONE);
-      Check.due("limit " + limit + ", one push", Check.started(limit, 8, "@$.").solve(), 1);
-    }
-    Check.due("limit 2, two pushes", Check.started(2, 8, TWO_PUSHES).solve(), 2);
-    int[] toForty = {40, 41, 42, 1000, Integer.MAX_VALUE};
-    for (int limit : toForty) {
-      Check.due("limit " + limit + ", 40 pushes", Check.started(limit, 8, Check.FORTY_PUSHES).solve(), 40);
-      // Read from the field: no level is known whose least solution has more than 40 pushes.
-      Field kept = BoxPushSolver.class.getDeclaredField("pushLimit");
-      kept.setAccessible(true);
-      Check.due("limit kept of " + limit, kept.getInt(new BoxPushSolver(limit, 8)), 40);
-    }
-    Check.due("limit 39, 40 pushes", Check.started(39, 8, Check.FORTY_PUSHES).solve(), BoxPushSolver.ERR_NONE);
-  }
-
-  private static void historySizeIsClamped() {
-    int[] given = {Integer.MIN_VALUE, -1, 0, 7, 8, 9, 33, 63, 64, 65, 1000, Integer.MAX_VALUE};
-    int[] kept = {8, 8, 8, 8, 8, 9, 33, 63, 64, 64, 64, 64};
-    for (int i = 0; i < given.length; i++) {
-      BoxPushSolver x = Check.started(10, given[i], "@ #$.");
-      for (int step = 0; step < 200; step++) {
-        Check.due("walk", x.move(step % 2 == 0 ? BoxPushSolver.RIGHT : BoxPushSolver.LEFT), BoxPushSolver.WALKED);
-      }
-      Check.due("undos with history " + given[i], Check.undoAll(x), kept[i]);
-      Check.due("moveCount with history " + given[i], x.moveCount(), 200 - kept[i]);
-    }
   }
 
   private static void setCellStoresEveryCharacter() {

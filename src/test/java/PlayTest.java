@@ -1,5 +1,3 @@
-import java.lang.reflect.Field;
-
 /** Promises 4 to 6: move, push and undo. */
 public final class PlayTest {
   private static final int UP = BoxPushSolver.UP;
@@ -9,7 +7,7 @@ public final class PlayTest {
   private static final int[] ROW_STEP = {-1, 0, 1, 0};
   private static final int[] COL_STEP = {0, 1, 0, -1};
 
-  public static void main(String[] args) throws ReflectiveOperationException {
+  public static void main(String[] args) {
     moveRefusals();
     moveWalksEveryWay();
     movePushesEveryWay();
@@ -25,7 +23,6 @@ public final class PlayTest {
     historyIsBounded();
     historyAfterUndo();
     stepsKeepTheStoredSolution();
-    countersWrap();
     Check.end();
   }
 
@@ -316,30 +313,5 @@ public final class PlayTest {
     Check.same("solution after an undo", Check.solution(x), stored);
     x.move(9);
     Check.same("solution after a refusal", Check.solution(x), stored);
-  }
-
-  /** The counters are set through reflection: 2147483647 real steps would take too long. */
-  private static void countersWrap() throws ReflectiveOperationException {
-    BoxPushSolver x = Check.started(10, 8, "@$    .", "   ");
-    setField(x, "moves", Integer.MAX_VALUE);
-    setField(x, "pushes", Integer.MAX_VALUE);
-    Check.due("pushing move", x.move(RIGHT), 2);
-    Check.due("moveCount wraps", x.moveCount(), Integer.MIN_VALUE);
-    Check.due("pushCount wraps", x.pushCount(), Integer.MIN_VALUE);
-    Check.due("undo", x.undo(), true);
-    Check.due("moveCount wraps back", x.moveCount(), Integer.MAX_VALUE);
-    Check.due("pushCount wraps back", x.pushCount(), Integer.MAX_VALUE);
-    Check.due("push", x.push(0, 1, RIGHT), 2);
-    Check.due("moveCount wraps on push", x.moveCount(), Integer.MIN_VALUE);
-    Check.due("pushCount wraps on push", x.pushCount(), Integer.MIN_VALUE);
-    Check.due("walk", x.move(LEFT), 1);
-    Check.due("moveCount after the wrap", x.moveCount(), Integer.MIN_VALUE + 1);
-    Check.due("pushCount stays on a walk", x.pushCount(), Integer.MIN_VALUE);
-  }
-
-  private static void setField(BoxPushSolver x, String name, int value) throws ReflectiveOperationException {
-    Field field = BoxPushSolver.class.getDeclaredField(name);
-    field.setAccessible(true);
-    field.setInt(x, value);
   }
 }

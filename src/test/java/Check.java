@@ -175,7 +175,17 @@ final class Check {
     x.setCell(7, 7, '@');
     x.setCell(0, 0, '*');
     x.setCell(1, 2, ' ');
+    duePlayed(x);
     return x;
+  }
+
+  /** What played() is known to come to: a twin made by the same calls would not show what these calls do wrong. */
+  static void duePlayed(BoxPushSolver x) {
+    due("played, pusher", x.pusher(), 11);
+    same("played, solution", solution(x), "[116 84 55 51 47 ]");
+    same("played, position", position(x), "13, at 11 moves 13 pushes 4");
+    same("played, solution again", solution(x), "[116 84 55 51 47 ]");
+    due("played, edited cell", x.getCell(0, 0), '*');
   }
 
   /** How many undos in a row succeed. */

@@ -325,25 +325,32 @@ public final class EditAndStartBoundaryTest {
   private static void setCellLeavesThePlayPosition() {
     Check.sentence("2: setCell never touches the play position");
     for (int ch : LEVEL_CHARACTERS) {
-      BoxPushSolver x = Check.played();
-      BoxPushSolver twin = Check.played();
-      int[] old = new int[64];
+      BoxPushSolver x = Check.started(10, 8, "      ", "@$  . ", "      ");
+      Check.due("solve", x.solve(), 3);
+      Check.due("pushing move", x.move(RIGHT), BoxPushSolver.PUSHED);
+      Check.due("walk", x.move(LEFT), BoxPushSolver.WALKED);
+      String before = playReading(x);
       for (int cell = 0; cell < 64; cell++) {
-        old[cell] = x.getCell(cell / 8, cell % 8);
         Check.due("setCell", x.setCell(cell / 8, cell % 8, ch), true);
+        Check.same("cell " + cell + " set to " + ch, playReading(x), before);
       }
-      Check.same("position with all cells " + ch, Check.position(x), Check.position(twin));
-      for (int cell = 0; cell < 64; cell++) {
-        Check.due("live " + cell, x.live(cell / 8, cell % 8), twin.live(cell / 8, cell % 8));
-        Check.due("reachable " + cell, x.reachable(cell / 8, cell % 8), twin.reachable(cell / 8, cell % 8));
-      }
-      Check.due("step", x.move(RIGHT), twin.move(RIGHT));
-      Check.due("step", x.push(1, 5, LEFT), twin.push(1, 5, LEFT));
-      for (int cell = 0; cell < 64; cell++) {
-        x.setCell(cell / 8, cell % 8, old[cell]);
-      }
-      Check.alike("after all cells were " + ch, x, twin);
+      Check.same("stored solution", Check.solution(x), "[37 41 45 ]");
+      Check.due("pusher", x.pusher(), 8);
+      Check.due("solve", x.solve(), 2);
+      Check.due("push", x.push(1, 2, RIGHT), BoxPushSolver.PUSHED);
+      Check.due("push onto the goal", x.push(1, 3, RIGHT), BoxPushSolver.PUSHED);
+      Check.due("solved", x.solved(), true);
+      Check.due("undos", Check.undoAll(x), 4);
     }
+  }
+
+  /** All that can be read of the play position, and nothing of the edit grid. */
+  private static String playReading(BoxPushSolver x) {
+    StringBuilder text = new StringBuilder(Check.position(x) + Check.solution(x));
+    for (int cell = 0; cell < 64; cell++) {
+      text.append(x.live(cell / 8, cell % 8) ? 'l' : '-').append(x.reachable(cell / 8, cell % 8) ? 'r' : '-');
+    }
+    return text.toString();
   }
 
   private static void editGridTakesAnything() {
@@ -372,6 +379,7 @@ public final class EditAndStartBoundaryTest {
       }
       Check.due("getCell to cell 0", x.getCell(bad, -8 * bad), -1);
     }
+    Check.duePlayed(x);
     Check.alike("getCell changes nothing", x, Check.played());
   }
 

@@ -455,7 +455,9 @@ public final class PlayBoundaryTest {
 
   private static BoxPushSolver playedAndUndone() {
     BoxPushSolver x = Check.played();
-    Check.due("all undos", Check.undoAll(x), 8);
+    for (int i = 0; i < 8; i++) {
+      Check.due("undo " + i, x.undo(), true);
+    }
     return x;
   }
 
@@ -471,6 +473,11 @@ public final class PlayBoundaryTest {
     Check.refused("undo at the start", level("@$ ."), PlayBoundaryTest::undoAnswer, 0);
     Check.refused("undo after all", PlayBoundaryTest::playedAndUndone, PlayBoundaryTest::undoAnswer, 0);
     Check.refused("undo after a new start", PlayBoundaryTest::playedAndStartedAnew, PlayBoundaryTest::undoAnswer, 0);
+    BoxPushSolver solved = Check.started(10, 8, "@$ .");
+    Check.due("solve", solved.solve(), 2);
+    Check.due("undo", solved.undo(), false);
+    Check.same("solution", Check.solution(solved), "[5 9 ]");
+    Check.same("position", Check.position(solved), "1, at 0 moves 0 pushes 0");
     BoxPushSolver x = Check.started(10, 8, "@$ .", "    ");
     for (int dir : NO_DIRECTIONS) {
       x.move(dir);

@@ -379,11 +379,13 @@ public final class ReadingBoundaryTest {
     for (int row : all) {
       for (int col : all) {
         readAll(x, row, col);
+        Check.duePlayed(x);
         readAll(fresh, row, col);
+        Check.due("not started", fresh.pusher(), -1);
       }
     }
-    Check.alike("in play", x, Check.played());
-    Check.alike("not started", fresh, new BoxPushSolver(10, 10));
+    Check.due("undos", Check.undoAll(x), 8);
+    Check.same("after the undos", Check.position(x), "13, at 21 moves 5 pushes 2");
   }
 
   private static void readAll(BoxPushSolver x, int row, int col) {

@@ -223,7 +223,8 @@ public final class SolveBoundaryTest {
     Check.sentence("14: It considers these conditions in this order");
     Check.due("not started before solved", drawn("@*").solve(), BoxPushSolver.ERR_NOT_STARTED);
     Check.due("not started before too big", drawn("@$$.  .  ").solve(), BoxPushSolver.ERR_NOT_STARTED);
-    Check.due("solved before too big", Check.started(10, 10, " @ *  * ", "        ").solve(), 0);
+    String[] open = {"        ", " @ *    ", "     *  ", "        "};
+    Check.due("solved before too big", Check.started(10, 10, open).solve(), 0);
     String[] corner = {"$       ", "  . .   ", "  @ $   ", "        "};
     Check.due("too big before none", Check.started(10, 10, corner).solve(), TOO_BIG);
     String[] far = {"@$     .", "########", " *    "};
@@ -298,30 +299,44 @@ public final class SolveBoundaryTest {
         code(2, 4, DOWN), code(3, 4, DOWN));
   }
 
-  private static BoxPushSolver solvedTwin(int times) {
-    BoxPushSolver x = Check.played();
-    for (int i = 0; i < times; i++) {
-      Check.due("solve", x.solve(), 3);
-    }
-    return x;
-  }
-
+  /** A game in which solve() is called before each step, beside a twin that never gets this call. */
   private static void solveLeavesTheRest() {
     Check.sentence("14: The position, both counters and the history are never changed by solve()");
-    BoxPushSolver x = solvedTwin(1);
-    BoxPushSolver before = Check.played();
-    Check.same("position", Check.position(x), Check.position(before));
-    Check.alike("solved once or often", solvedTwin(3), x);
-    BoxPushSolver y = solvedTwin(1);
-    for (int i = 0; i < 9; i++) {
-      Check.due("undo " + i, y.undo(), before.undo());
-      Check.same("undo " + i, Check.position(y), Check.position(before));
-      for (int cell = 0; cell < 64; cell++) {
-        Check.due("getCell " + cell, y.getCell(cell / 8, cell % 8), before.getCell(cell / 8, cell % 8));
-        Check.due("live " + cell, y.live(cell / 8, cell % 8), before.live(cell / 8, cell % 8));
-        Check.due("reachable " + cell, y.reachable(cell / 8, cell % 8), before.reachable(cell / 8, cell % 8));
-      }
+    String[] level = {"        ", "@$   .  ", "        "};
+    BoxPushSolver x = Check.started(40, 8, level);
+    BoxPushSolver twin = Check.started(40, 8, level);
+    int[] steps = {RIGHT, LEFT, UP, RIGHT, RIGHT, RIGHT, DOWN, LEFT, UP, LEFT, LEFT, DOWN, RIGHT, RIGHT, RIGHT, RIGHT};
+    x.setCell(0, 0, '*');
+    twin.setCell(0, 0, '*');
+    int solvedTimes = 0;
+    for (int dir : steps) {
+      solvedTimes += x.solve() >= 0 ? 1 : 0;
+      Check.same("solve before " + dir, restOf(x), restOf(twin));
+      Check.due("move", x.move(dir), twin.move(dir));
+      Check.same("after " + dir, restOf(x), restOf(twin));
     }
+    Check.due("times it was solved", solvedTimes, steps.length);
+    Check.due("solved in the end", x.solved(), true);
+    for (int i = 0; i <= 8; i++) {
+      x.solve();
+      Check.due("undo " + i, x.undo(), i < 8);
+      twin.undo();
+      Check.same("undo " + i, restOf(x), restOf(twin));
+    }
+    Check.due("push to a dead position", x.push(1, 1, UP), BoxPushSolver.PUSHED);
+    Check.due("push of the twin", twin.push(1, 1, UP), BoxPushSolver.PUSHED);
+    Check.due("none", x.solve(), NONE);
+    Check.same("after none", restOf(x), restOf(twin));
+  }
+
+  /** All that can be read but the stored solution. */
+  private static String restOf(BoxPushSolver x) {
+    StringBuilder text = new StringBuilder(Check.position(x));
+    for (int cell = 0; cell < 64; cell++) {
+      text.append((char) x.getCell(cell / 8, cell % 8)).append(x.live(cell / 8, cell % 8) ? 'l' : '-');
+      text.append(x.reachable(cell / 8, cell % 8) ? 'r' : '-');
+    }
+    return text.toString();
   }
 
   private static void solutionLengthIsTheAnswer() {
